@@ -104,7 +104,7 @@ public final class YieldedHours {
         spareHome = old;
         rule.forget();
         imageCount = 0;
-        now.begin(home);
+        now.start(home);
         return home.meetings;
     }
 
@@ -1196,7 +1196,7 @@ public final class YieldedHours {
         final int[] oldPlace = new int[MOST_ACTS * MOST_MEETINGS];
         final int[] oldTimes = new int[MOST_ACTS * MOST_MEETINGS];
 
-        void begin(House home) {
+        void start(House home) {
             System.arraycopy(home.firstPlace, 0, place, 0, MOST_MEETINGS);
             System.arraycopy(home.firstTimes, 0, times, 0, MOST_MEETINGS);
             aim.lines = 0;

@@ -22,6 +22,7 @@ final class Model {
         }
     }
 
+    @SuppressWarnings("serial")
     static final class Fault extends Exception {
         final int kind;
         final int at;
