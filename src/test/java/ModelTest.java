@@ -80,16 +80,23 @@ public final class ModelTest {
     private void runOnce(int seed, boolean small) {
         begin(seed, small ? "small" : "large");
         this.small = small;
+        tellAll();
+        for (int i = 0; i < 45; i++) {
+            if (upTo(40) == 0) {
+                tellAll();
+            }
+            change();
+            look();
+        }
+        lookAtAll();
+    }
+
+    private void tellAll() {
         tellHouse(small ? texts.house(4, 2, 4, 6) : texts.house(10, 3, 8, 10));
         if (upTo(4) > 0) {
             tellRule(texts.rule());
         }
         tellTarget(texts.target());
-        lookAtAll();
-        for (int i = 0; i < 45; i++) {
-            change();
-            look();
-        }
         lookAtAll();
     }
 

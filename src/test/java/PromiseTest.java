@@ -37,6 +37,7 @@ public final class PromiseTest {
         newObject();
         feed();
         house();
+        houseForgets();
         houseFaults();
         houseLimits();
         target();
@@ -143,6 +144,29 @@ public final class PromiseTest {
         due("3 blanks anywhere", 1, () -> Checks.house(x, "  hours3 ;  room  1 ;meet 2 0 0;may0 1 2 ;  "));
         due("3 many digits", 0, () -> Checks.house(x, "hours 00000000000000000007;"));
         due("3 of it", 7, () -> x.told(0));
+    }
+
+    /** Nothing of a house that was told earlier, or that had a fault, may shine through. */
+    private static void houseForgets() {
+        String rich = "hours 3;room 9;person 1 1;meet 0 0 5;who 0 0;busy 0 1 1;may 0 0 1;fixed 0;moved 0 7;hold 1 0 9 9;";
+        String bare = "room 9;person 0 0;meet 0 0 0;";
+        tell(rich);
+        Checks.house(x, rich);
+        Checks.house(x, rich + "?");
+        for (int i = 0; i < 3; i++) {
+            due("3 bare", 1, () -> Checks.house(x, bare));
+            due("3 hours as without", 8, () -> x.told(0));
+            due("3 no holds", 0, () -> x.told(4));
+            due("3 not fixed", 0, () -> x.meeting(0, 3));
+            due("3 not moved", 0, () -> x.meeting(0, 4));
+            due("3 nobody in it", 0, () -> x.meeting(0, 5));
+            due("3 in any hour", 255, () -> x.meeting(0, 6));
+            due("3 never busy", 0, () -> x.person(0, 2));
+            due("3 one room, one person", 11, () -> 10 * x.told(1) + x.told(2));
+            due("3 free everywhere", 8, () -> x.free(0));
+            Checks.house(x, i == 0 ? bare : rich);
+            due("3 and back", i == 0 ? 0 : 7, () -> x.meeting(0, 4));
+        }
     }
 
     private static void faulty(String text, int kind, int at) {
@@ -573,6 +597,13 @@ public final class PromiseTest {
         due("22 does not fit", -1, () -> x.goes(0, 3, 0));
         due("23 hours", 3, () -> x.hours(2));
         due("23 where nobody is", 5, () -> x.hours(3));
+        x.drop(3);
+        due("23 out, asked at once", 0, () -> x.hours(3));
+        x.undo();
+        due("22 back, asked at once: the least room", 2, () -> x.goes(3, 2, 3));
+        x.drop(3);
+        x.undo();
+        due("23 back, asked at once", 5, () -> x.hours(3));
         x.drop(0);
         due("21 out", -1, () -> x.fits(0, 0, 0));
         due("22 out", -1, () -> x.goes(0, 0, 0));
@@ -636,6 +667,7 @@ public final class PromiseTest {
         due("24 could not: 1 and 2 would share a person", 0, () -> bit(x.swap(0, 2)));
         due("24 fixed", 0, () -> bit(x.swap(3, 4)));
         noSuch("24 no meeting", () -> bit(x.swap(5, 5)));
+        noSuch("24 no first", () -> bit(x.swap(5, 0)));
         noSuch("24 no other", () -> bit(x.swap(0, -1)));
         wrongArgument("24 one meeting", () -> bit(x.swap(1, 1)));
         tell("hours 4;room 1;meet 0 0 0;meet 1 0 0;meet 2 0 0;meet 3 0 0;may 2 2 3;may 3 0 2;may 3 3 3;");
@@ -826,6 +858,7 @@ public final class PromiseTest {
         x.drop(0);
         due("36 not where they are out", 1, () -> x.pair(0, 1));
         noSuch("36 no person", () -> x.pair(4, 4));
+        noSuch("36 no first", () -> x.pair(4, 0));
         noSuch("36 no other", () -> x.pair(0, -1));
         wrongArgument("36 one person", () -> x.pair(0, 0));
     }
@@ -908,6 +941,7 @@ public final class PromiseTest {
         due("41 the place that is wanted", 1, () -> bit(so("hour=2 and room=2 and step=0", 3, 0)));
         due("41 a fixed one is asked too", 1, () -> bit(so("hour=3 and room=0", 4, 0)));
         noSuch("41 no other", () -> bit(x.yields(5, 5)));
+        noSuch("41 no other, of a meeting", () -> bit(x.yields(5, 0)));
         noSuch("41 no meeting", () -> bit(x.yields(0, -1)));
         wrongArgument("41 one meeting", () -> bit(x.yields(0, 0)));
         x.drop(0);
@@ -1065,7 +1099,7 @@ public final class PromiseTest {
         due("46 undone", 0, () -> x.undo());
         due("46 as it was", 0, () -> x.meeting(0, 0) + x.meeting(0, 4));
         x.drop(0);
-        due("46 none moved", 0, () -> x.done(1, 4));
+        due("46 none moved", 0, () -> x.done(1, 60));
         due("46 an act all the same", 2, () -> x.count(2));
         wrongArgument("46 none", () -> x.done(1, 0));
         wrongArgument("46 61", () -> x.done(1, 61));
@@ -1081,6 +1115,7 @@ public final class PromiseTest {
         due("47 the seeds wrap", x.week(Integer.MAX_VALUE, 9, 0) + x.week(Integer.MIN_VALUE, 9, 0),
             () -> x.span(Integer.MAX_VALUE, 2, 9, 2));
         due("47 nothing was done", 8, () -> x.meeting(0, 0));
+        due("47 most weeks and draws", 0, () -> x.span(1, 20, 60, 0) > x.span(1, 20, 60, 1) ? 1 : 0);
         wrongArgument("47 no week", () -> x.span(1, 0, 1, 0));
         wrongArgument("47 21 weeks", () -> x.span(1, 21, 1, 0));
         wrongArgument("47 no draw", () -> x.span(1, 1, 0, 0));
