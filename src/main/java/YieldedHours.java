@@ -1892,7 +1892,10 @@ public final class YieldedHours {
             return board.place[m] != NONE && !board.home.isFixed(m);
         }
 
-        /** Puts each that may be the next one into the chain, behind the first only higher ones; at most MOST_IN_RING and one calls stand open. */
+        /**
+         * Puts each that may be the next one into the chain, behind the first only higher ones; at most MOST_IN_RING
+         * and one calls stand open.
+         */
         void extend(int i, int used) {
             if (i >= many) {
                 if (turns()) {
