@@ -550,6 +550,7 @@ final class TextSentences extends SentencePart {
             due("status(0)", 0, () -> x.status(0));
             due("status(1)", 0, () -> x.status(1));
             due("fault()", -1, () -> x.fault());
+            due("NONE", -1, () -> YieldedHours.NONE);
             due("undo()", -1, () -> x.undo());
             due("restore()", -1, () -> x.restore());
             noSuch("meeting(0, 0)", () -> x.meeting(0, 0));
