@@ -100,6 +100,15 @@ final class PushSentences extends SentencePart {
                 pushed("3 waits behind 2", 0, 1, 0, 1, 2, 0, 10);
                 rule("1=0");
                 pushed("the rule is not so", 0, 1, 0, 1, -1, 0, 2);
+                house("hours 2;room 9;room 9;meet 1 1 0;meet 1 0 0;meet 0 1 0;hold 0 0 1 1;hold 1 1 1 1;");
+                rule("step=0");
+                pushed("hour 0, room 1, ahead of hour 1, room 0", 0, 1, 0, 1, 10, -1);
+                // 2 is in the way of 1 in both rooms of hour 1, for a person
+                house("hours 3;room 9;room 9;person 0 0;meet 0 0 0;meet 2 0 0;meet 1 1 0;who 1 0;who 2 0;may 1 1 1;");
+                rule("hour=1 and room=0");
+                pushed("the room that is wanted", 0, 2, 0, 2, 1, 0);
+                rule("hour=1 and room=1");
+                pushed("the other room", 0, 2, 0, 2, 11, 0);
                 // hour 0 would yield, but hour 2 is free
                 Checks.house(x, "hours 4;room 9;meet 3 0 0;meet 1 0 0;meet 0 0 0;");
                 rule("1=1");

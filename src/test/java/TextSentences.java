@@ -375,6 +375,9 @@ final class TextSentences extends SentencePart {
             so(true, highest + "*2-1+1<0");
             so(true, highest + "*2<99");
             so(true, highest + "*2-1>0-1");
+            so(true, highest + "*2-1>0-2");
+            so(true, "0-2<" + highest + "*2-1");
+            so(false, highest + "*2>0");
             so(true, "99*99*99*99*99=92*99*99*99*99+7*99*99*99*99");
         });
         terms(1, "Numbers: digits, as many as stand there", () -> {
@@ -400,6 +403,7 @@ final class TextSentences extends SentencePart {
             fault(1, "|rxom 1;");
             fault(1, "|Room 1;");
             fault(1, "|roOm 1;");
+            fault(1, "room|R 1;");
             fault(1, "|r oom 1;");
             fault(1, "|roomroom 1;");
             fine("room1;person1 2;meet0 0 0;who0 0;may0 1 2;");
@@ -409,6 +413,7 @@ final class TextSentences extends SentencePart {
             so(true, "cost=mycost");
             ruleFault(1, "1=1 |andcost=1");
             ruleFault(1, "1=1 |AND 1=1");
+            ruleFault(1, "1=1 or|A=1");
             ruleFault(1, "|costs=1");
             ruleFault(1, "|mycos=1");
             ruleFault(1, "cost|1=1");

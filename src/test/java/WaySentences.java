@@ -456,6 +456,8 @@ final class WaySentences extends SentencePart {
             due("all but two", 1023, () -> x.gap(126));
             house("hours 3;room 9;person 0 0;" + "meet 0 0 0;".repeat(9) + "meet 2 0 0;who 9 0;");
             due("the tenth meeting", 3, () -> x.gap(1));
+            x.drop(9);
+            due("the tenth meeting is out", 7, () -> x.gap(1));
         });
         promise(38, "IllegalArgumentException: bits of no PEOPLE (so below).", () -> {
             x = new YieldedHours();
