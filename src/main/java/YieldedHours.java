@@ -1530,7 +1530,7 @@ public final class YieldedHours {
             }
         }
 
-        void readAny(Tape tape, int open) {
+        private void readAny(Tape tape, int open) {
             readAll(tape, open);
             for (int i = 0; i < MOST_RULE_BYTES && !tape.failed() && tape.word == Word.OR; i++) {
                 tape.advance();
@@ -1539,7 +1539,7 @@ public final class YieldedHours {
             }
         }
 
-        void readAll(Tape tape, int open) {
+        private void readAll(Tape tape, int open) {
             readOne(tape, open);
             for (int i = 0; i < MOST_RULE_BYTES && !tape.failed() && tape.word == Word.AND; i++) {
                 tape.advance();
@@ -1548,7 +1548,7 @@ public final class YieldedHours {
             }
         }
 
-        void readOne(Tape tape, int open) {
+        private void readOne(Tape tape, int open) {
             if (tape.failed()) {
                 return;
             }
@@ -1591,7 +1591,7 @@ public final class YieldedHours {
             emit(sign);
         }
 
-        void readSum(Tape tape, int open) {
+        private void readSum(Tape tape, int open) {
             readProduct(tape, open);
             for (int i = 0; i < MOST_RULE_BYTES && !tape.failed() && (tape.atSign('+') || tape.atSign('-')); i++) {
                 int sign = tape.atSign('+') ? PLUS : MINUS;
@@ -1601,7 +1601,7 @@ public final class YieldedHours {
             }
         }
 
-        void readProduct(Tape tape, int open) {
+        private void readProduct(Tape tape, int open) {
             readUnit(tape, open);
             for (int i = 0; i < MOST_RULE_BYTES && !tape.failed() && tape.atSign('*'); i++) {
                 tape.advance();
@@ -1610,7 +1610,7 @@ public final class YieldedHours {
             }
         }
 
-        void readUnit(Tape tape, int open) {
+        private void readUnit(Tape tape, int open) {
             if (tape.failed()) {
                 return;
             }
@@ -1838,7 +1838,7 @@ public final class YieldedHours {
         }
 
         /** Seats the i-th of the others and all behind it; at most MOST_OTHERS calls stand open. */
-        boolean seat(int i) {
+        private boolean seat(int i) {
             if (i >= otherCount) {
                 return true;
             }
@@ -1896,7 +1896,7 @@ public final class YieldedHours {
          * Puts each that may be the next one into the chain, behind the first only higher ones; at most MOST_IN_RING
          * and one calls stand open.
          */
-        void extend(int i, int used) {
+        private void extend(int i, int used) {
             if (i >= many) {
                 if (turns()) {
                     keep();

@@ -4,7 +4,10 @@ import java.lang.reflect.Method;
 import java.lang.reflect.Modifier;
 import java.nio.file.Files;
 import java.nio.file.Path;
+import java.util.HashMap;
 import java.util.HashSet;
+import java.util.List;
+import java.util.Map;
 import java.util.Set;
 import java.util.TreeSet;
 import java.util.regex.Matcher;
@@ -18,6 +21,7 @@ public final class FaceTest {
         face();
         members();
         source();
+        recursion();
         checks.end();
     }
 
@@ -107,5 +111,50 @@ public final class FaceTest {
             checks.is(imports.group(), true, imports.group().matches("import java\\.util\\.(Arrays|NoSuchElementException);"));
         }
         checks.is("plain bytes alone", true, text.chars().allMatch(c -> c == '\n' || c >= ' ' && c <= '~'));
+    }
+
+    /** Rule 8: a method of a class inside that comes back to itself is private. */
+    private static void recursion() throws IOException {
+        String text = Files.readString(Path.of("src/main/java/YieldedHours.java"));
+        Matcher inside = Pattern.compile("(?ms)^    private static final class (\\w+) \\{$(.*?)^    }$").matcher(text);
+        int found = 0;
+        while (inside.find()) {
+            Map<String, String> heads = new HashMap<>();
+            Map<String, Set<String>> calls = new HashMap<>();
+            Matcher method = Pattern.compile("(?ms)^        ([^;={}/*]*?)\\b(\\w+)\\([^;={}]*?\\) \\{$(.*?)^        }$")
+                .matcher(inside.group(2));
+            while (method.find()) {
+                heads.put(method.group(2), method.group(1));
+                calls.put(method.group(2), callsIn(method.group(3)));
+            }
+            for (String each : heads.keySet()) {
+                if (comesBack(each, calls)) {
+                    found++;
+                    checks.is(inside.group(1) + "." + each + " is private", true, heads.get(each).startsWith("private "));
+                }
+            }
+        }
+        checks.same("methods that come back to themselves", 8, found);
+    }
+
+    /** Those of its own class: on another object they would stand behind a point. */
+    private static Set<String> callsIn(String body) {
+        Set<String> names = new HashSet<>();
+        Matcher m = Pattern.compile("(?<![.\\w])(\\w+)\\(").matcher(body);
+        while (m.find()) {
+            names.add(m.group(1));
+        }
+        return names;
+    }
+
+    private static boolean comesBack(String name, Map<String, Set<String>> calls) {
+        Set<String> reached = new HashSet<>(calls.get(name));
+        for (int size = 0; size < reached.size();) {
+            size = reached.size();
+            for (String each : List.copyOf(reached)) {
+                reached.addAll(calls.getOrDefault(each, Set.of()));
+            }
+        }
+        return reached.contains(name);
     }
 }
